@@ -2,6 +2,7 @@
 public final class ErrataColumn {
     public static final int UNKNOWN = -1, BAD = -2, LATE = -3, FULL = -4, NONE = -9;
 
+    private static final int LETTERS = 4;
     private static final int MOST_LETTERS = 5;
     private static final int MOST_COMPOSITORS = 3;
     private static final int MOST_READERS = 4;
@@ -179,8 +180,7 @@ public final class ErrataColumn {
             return BAD;
         }
         int onRing = notices.nameOnRing(sheet);
-        int entry = notices.roundsToRing(sheet, onRing);
-        return what == 0 ? entry : notices.roundsOfRing(sheet, onRing);
+        return what == 0 ? notices.roundsToRing(sheet, onRing) : notices.roundsOfRing(sheet, onRing);
     }
 
     public int first(int n, long row, int what) {
@@ -455,20 +455,16 @@ public final class ErrataColumn {
             return place >= 0 && place < length;
         }
 
-        private int shiftOf(int place) {
-            return 2 * (length - 1 - place);
-        }
-
         private int nextPlace(int place) {
             return place + 1 < length ? place + 1 : 0;
         }
 
         private int letterAt(int name, int place) {
-            return name >> shiftOf(place) & 3;
+            return name >> 2 * (length - 1 - place) & 3;
         }
 
         private int withLetter(int name, int place, int letter) {
-            int shift = shiftOf(place);
+            int shift = 2 * (length - 1 - place);
             return name & ~(3 << shift) | (letter & 3) << shift;
         }
 
@@ -664,7 +660,7 @@ public final class ErrataColumn {
         }
 
         private boolean isNoticeFor(int place, int letter) {
-            return spelling.hasPlace(place) && letter >= 0 && letter <= 3;
+            return spelling.hasPlace(place) && letter >= 0 && letter < LETTERS;
         }
 
         private int periodOf(int reader) {
@@ -761,7 +757,7 @@ public final class ErrataColumn {
             return slow;
         }
 
-        /** Where the two met is whole rings ahead of SAID, so one from there and one from SAID first meet where the ring begins. */
+        /** Where the two met is whole rings ahead of SAID: one from there and one from SAID first meet where the ring begins. */
         private int roundsToRing(Sheet sheet, int onRing) {
             int name = sheet.now.said();
             int ahead = onRing;
@@ -828,7 +824,7 @@ public final class ErrataColumn {
             int day = sheet.now.day();
             for (int c = 0; c < sheet.compositors; c++) {
                 for (int p = 0; p < sheet.spelling.length; p++) {
-                    for (int x = 0; x < 4; x++) {
+                    for (int x = 0; x < LETTERS; x++) {
                         readAhead(sheet, readers, c, p, x);
                         int last = lastNotice(sheet, sheet.noticed(c, sheet.now.said(), p, x), readers, day + 1);
                         if (last != NONE) {
@@ -851,9 +847,11 @@ public final class ErrataColumn {
         /** The first notice that, printed on a day, rights what was said and the beliefs; NONE. */
         private int lastNotice(Sheet sheet, int said, int readers, int day) {
             for (int c = 0; c < sheet.compositors; c++) {
+                int kind = sheet.now.kindOf(c);
                 for (int p = 0; p < sheet.spelling.length; p++) {
-                    for (int x = 0; x < 4; x++) {
-                        if (sheet.noticed(c, said, p, x) == sheet.truth && rightsBeliefs(sheet, readers, day, c, p, x)) {
+                    for (int x = 0; x < LETTERS; x++) {
+                        if (sheet.spelling.noticed(kind, said, p, x) == sheet.truth
+                                && rightsBeliefs(sheet, readers, day, kind, p, x)) {
                             return 100 * c + 10 * p + x;
                         }
                     }
@@ -862,9 +860,12 @@ public final class ErrataColumn {
             return NONE;
         }
 
-        private boolean rightsBeliefs(Sheet sheet, int readers, int day, int compositor, int place, int letter) {
+        private boolean rightsBeliefs(Sheet sheet, int readers, int day, int kind, int place, int letter) {
             for (int r = 0; r < readers && r < beliefs.length; r++) {
-                int belief = sheet.readsOn(r, day) ? sheet.noticed(compositor, beliefs[r], place, letter) : beliefs[r];
+                int belief = beliefs[r];
+                if (sheet.readsOn(r, day)) {
+                    belief = sheet.spelling.noticed(kind, belief, place, letter);
+                }
                 if (belief != sheet.truth) {
                     return false;
                 }
@@ -1034,7 +1035,7 @@ public final class ErrataColumn {
         private static int mostRightBy(Sheet sheet, int compositor) {
             int most = 0;
             for (int p = 0; p < sheet.spelling.length; p++) {
-                for (int x = 0; x < 4; x++) {
+                for (int x = 0; x < LETTERS; x++) {
                     most = Math.max(most, sheet.rightOf(sheet.noticed(compositor, sheet.now.said(), p, x)));
                 }
             }

@@ -101,7 +101,7 @@ public final class FaceTest {
             allCalls(x);
         }
         long made = bean.getCurrentThreadAllocatedBytes() - before;
-        check.holds("5600 calls made " + made + " bytes", made < 5600);
+        check.holds("5400 calls made " + made + " bytes", made < 5400);
     }
 
     private static void allCalls(ErrataColumn x) {
