@@ -1,6 +1,11 @@
 /** Counts answers that are not as due, for the tests beside it. */
 final class Check {
+    /** An object is used for at most so many calls. */
+    static final int MOST_CALLS = 512;
+
     private final String test;
+    private String sentence = "";
+    private int sentences = 0;
     private int calls = 0;
     private int wrong = 0;
 
@@ -8,11 +13,17 @@ final class Check {
         this.test = test;
     }
 
+    /** What follows, up to the next sentence, holds the class to these words of the document. */
+    void sentence(String words) {
+        sentence = " [" + words + "]";
+        sentences++;
+    }
+
     void due(String call, long got, long want) {
         calls++;
         if (got != want) {
             wrong++;
-            System.out.println(test + ": " + call + " answered " + got + ", due is " + want);
+            System.out.println(test + sentence + ": " + call + " answered " + got + ", due is " + want);
         }
     }
 
@@ -21,7 +32,8 @@ final class Check {
     }
 
     void end() {
-        System.out.println(test + ": " + calls + " answers, " + wrong + " wrong");
+        String held = sentences == 0 ? "" : sentences + " sentences, ";
+        System.out.println(test + ": " + held + calls + " answers, " + wrong + " wrong");
         if (wrong != 0) {
             System.exit(1);
         }
@@ -34,11 +46,23 @@ final class Check {
         }
     }
 
-    /** A new object whose paper is the text. */
-    static ErrataColumn column(String text) {
+    /** A new object whose text is this one, not yet the paper. */
+    static ErrataColumn written(String text) {
         ErrataColumn x = new ErrataColumn();
         rewrite(x, text);
+        return x;
+    }
+
+    /** A new object whose paper is the text. */
+    static ErrataColumn column(String text) {
+        ErrataColumn x = written(text);
         x.paper();
         return x;
+    }
+
+    /** A paper of so many letters, all a in truth and in what is said, with these parts. */
+    static ErrataColumn columnOf(int letters, String parts) {
+        String name = "a".repeat(letters);
+        return column("E" + name + "/" + name + parts);
     }
 }

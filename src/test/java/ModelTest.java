@@ -3,7 +3,8 @@ import java.util.Random;
 /** Runs of calls by chance (the same ones each time), each answer against the plain model's. */
 public final class ModelTest {
     private static final int RUNS = 1200;
-    private static final int CALLS = 180;
+    /** A step makes at most so many calls: a new paper is the longest one. */
+    private static final int LONGEST_STEP = 50;
     private static final int LOOKS_FROM = 10;
     private static final int[] ODD_INTS = {-1, -9, 4, 5, 10, 99, 256, 40000, Integer.MAX_VALUE, Integer.MIN_VALUE};
     private static final Check check = new Check("ModelTest");
@@ -12,6 +13,7 @@ public final class ModelTest {
     private final ErrataColumn x = new ErrataColumn();
     private final PlainModel m = new PlainModel();
     private final int run;
+    private int used = 0;
 
     private ModelTest(int run) {
         this.run = run;
@@ -26,18 +28,21 @@ public final class ModelTest {
     }
 
     private void go() {
-        for (int i = 0; i < CALLS; i++) {
-            if (i == 0 || random.nextInt(60) == 0) {
+        newPaper();
+        while (used + LONGEST_STEP <= Check.MOST_CALLS) {
+            if (random.nextInt(60) == 0) {
                 newPaper();
+            } else {
+                call(random.nextInt(27));
             }
-            call(random.nextInt(27));
         }
-        for (int what = 0; what <= 10; what++) {
-            due("about " + what, x.about(what), m.about(what));
+        for (int what = 0; used < Check.MOST_CALLS; what++) {
+            due("about " + what % 11, x.about(what % 11), m.about(what % 11));
         }
     }
 
     private void due(String call, long got, long want) {
+        used++;
         check.due("run " + run + " " + call, got, want);
     }
 
