@@ -46,6 +46,13 @@ public final class ChancesEdgesTest {
         rests("Ea/a", new int[] {0, 0, 0, 0}, 0, NONE);
         rests("Eab/baR10", new int[] {1, 3, 1, 3}, 0, NONE);
         rests("Eaa/aaC0C1C2", new int[] {0, 3, 1, 1}, 0, NONE);
+        rests("Eaa/aaC1C2", new int[] {0, 3, 1, 1}, 0, NONE);
+        ErrataColumn x = Check.columnOf(5, "C0C0C0");
+        check.due("of a paper before", x.rests(0, 0, 0, 0, 0), 9);
+        Check.rewrite(x, "Eaa/aaC1C2");
+        x.paper();
+        check.due("of this one", x.rests(0, 3, 1, 1, 0), 0);
+        check.due("of this one", x.rests(0, 3, 1, 1, 1), NONE);
     }
 
     private static void restsOfFew() {
@@ -66,6 +73,8 @@ public final class ChancesEdgesTest {
         rests("Eab/aaC0C2", new int[] {0, 0, 1, 1}, 1, 1);
         // 0 1, 1 2
         rests("Eab/aaC2C0", new int[] {0, 0, 1, 1}, 1, 10);
+        // 0
+        rests("Eb/aC0", new int[] {0, 0, 0, 0}, 1, 0);
     }
 
     private static void promiseRests() {
@@ -216,6 +225,9 @@ public final class ChancesEdgesTest {
         }
         share("Eabcd/abddC3", 0, 0, 1);
         share("Eabcd/abddC3C0", 1, 1, 1);
+        share("Eab/cbC1C3", 1, 0, 1);
+        share("Ebc/acC1C3", 0, 1, 1);
+        share("Ebc/acC1C3", 1, 0, 1);
     }
 
     private static void promiseShare() {

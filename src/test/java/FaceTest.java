@@ -91,17 +91,24 @@ public final class FaceTest {
 
     /** All calls of a run share one room, so nothing but a new object may take of it. */
     private static void callsMakeNoObjects() {
-        ErrataColumn x = Check.column("Eabcda/dcbabC1C2C3R10R20R31R43");
-        for (int i = 0; i < 200; i++) {
-            allCalls(x);
+        ErrataColumn[] columns = new ErrataColumn[40];
+        for (int i = 0; i < columns.length; i++) {
+            columns[i] = Check.column("Eabcda/dcbabC1C2C3R10R20R31R43");
         }
+        allCalls(columns, 0, 20);
         com.sun.management.ThreadMXBean bean = (com.sun.management.ThreadMXBean) ManagementFactory.getThreadMXBean();
         long before = bean.getCurrentThreadAllocatedBytes();
-        for (int i = 0; i < 200; i++) {
-            allCalls(x);
-        }
+        allCalls(columns, 20, 40);
         long made = bean.getCurrentThreadAllocatedBytes() - before;
-        check.holds("5400 calls made " + made + " bytes", made < 5400);
+        check.holds("8100 calls made " + made + " bytes", made < 8100);
+    }
+
+    private static void allCalls(ErrataColumn[] columns, int from, int to) {
+        for (int i = from; i < to; i++) {
+            for (int round = 0; round < 15; round++) {
+                allCalls(columns[i]);
+            }
+        }
     }
 
     private static void allCalls(ErrataColumn x) {

@@ -12,6 +12,7 @@ public final class NamesEdgesTest {
 
     public static void main(String[] args) {
         namesThatAreTold();
+        allNamesThatAreTold();
         figuresOfRows();
         rowsOfNobody();
         promiseAfter();
@@ -69,6 +70,20 @@ public final class NamesEdgesTest {
                 check.due("after of " + told + ", L " + l, x.after(told, 1, 0), BAD);
                 check.due("who of " + told + ", L " + l, x.who(told, 0, 0, 0), BAD);
                 check.due("who to " + told + ", L " + l, x.who(0, told, 0, 0), BAD);
+            }
+        }
+    }
+
+    private static void allNamesThatAreTold() {
+        check.sentence("NAMES are told as figures, the first LETTER first");
+        for (int l = 1; l <= 5; l++) {
+            ErrataColumn x = null;
+            for (int told = 0; told <= TENS[l] + 100; told++) {
+                x = told % 400 == 0 ? Check.columnOf(l, "C0") : x;
+                String figures = String.format("%0" + l + "d", told);
+                boolean isName = figures.length() == l && figures.matches("[0-3]*");
+                check.due("after(" + told + ", 1, 2), L " + l, x.after(told, 1, 2),
+                    isName ? told % TENS[l - 1] + 2 * TENS[l - 1] : BAD);
             }
         }
     }
@@ -155,6 +170,7 @@ public final class NamesEdgesTest {
         righted("Eabcdd/abcdaC0", 1, 43);
         righted("Eabcda/abcdbC2", 1, 43);
         righted("Eab/baC3", 1, 1);
+        righted("Ea/dC1", 1, 3);
     }
 
     private static void twoRight() {
@@ -164,6 +180,9 @@ public final class NamesEdgesTest {
         righted("Eabcdd/abcaaC0", 2, 33043);
         righted("Eaab/bbbC2C3", 2, 3013);
         righted("Eab/acC3", 2, 1);
+        righted("Ebc/acC3", 2, 11);
+        righted("Eaab/abbC1C3", 2, 100100);
+        righted("Eabc/bcaC1C2C3", 2, 201220);
     }
 
     private static void noRowRights() {
@@ -171,6 +190,7 @@ public final class NamesEdgesTest {
         righted("Ea/b", NONE, NONE);
         righted("Eaaa/bbbC0", NONE, NONE);
         righted("Eabcdd/aaaaaC0C0C0", NONE, NONE);
+        righted("Eaab/aacC1", NONE, NONE);
     }
 
     private static void leastAsNumber() {
@@ -213,6 +233,7 @@ public final class NamesEdgesTest {
         allRighted(Check.column("Eab/baC0R10"), "two places, each day read", 2, 11);
         allRighted(Check.column("Eab/baC0R20"), "two places, one day read", NONE, NONE);
         allRighted(Check.column("Eaaa/bbbC0R10"), "three places", NONE, NONE);
+        allRighted(Check.column("Ebcc/accC3R20"), "said alone can be righted", NONE, NONE);
     }
 
     private static void allRightedByAll() {

@@ -30,6 +30,7 @@ public final class PaperEdgesTest {
         promiseFault();
         promisePaper();
         paperForgets();
+        paperAsNew();
         promiseAbout();
         aboutAtItsEnds();
         promiseKind();
@@ -367,6 +368,28 @@ public final class PaperEdgesTest {
         x.paper();
         check.due("the paper now", x.about(2), 1);
         check.due("nobody is left", x.about(0) + x.about(1), 0);
+    }
+
+    /** Behind any paper with any acts the next one is as in a new object: all that can be asked is alike. */
+    private static void paperAsNew() {
+        check.sentence("THE TEXT is THE PAPER");
+        String[] papers = {"Ea/a", "Ea/bC1R10", "Eab/baC3C2R21R20R10", "Eabc/abdR10R10R10R10", "Eabcd/dcbaC1C2C3", LONGEST};
+        for (String old : papers) {
+            for (String paper : papers) {
+                ErrataColumn x = Check.column(old);
+                x.print(0, 0, 3);
+                x.learn(0, 0);
+                x.tell(1, 0);
+                x.keep(1);
+                x.rests(0, 0, 0, 0, 0);
+                x.share(0, true);
+                x.allRighted(0);
+                x.code(1);
+                Check.rewrite(x, paper);
+                x.paper();
+                check.holds(paper + " behind " + old, Everything.of(x).equals(Everything.of(Check.column(paper))));
+            }
+        }
     }
 
     private static void promiseAbout() {
